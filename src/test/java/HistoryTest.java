@@ -1,0 +1,179 @@
+/** Promises 13 to 15, and what records a state. */
+public final class HistoryTest {
+    public static void main(String[] args) {
+        fourStates();
+        undoIsExact();
+        whatIsNotInAState();
+        whatRecords();
+        snapshots();
+        errorsChangeNothing();
+        Due.end();
+    }
+
+    private static void fourStates() {
+        TagBus bus = new TagBus();
+        Due.is("undo()", bus.undo(), TagBus.NONE);
+        for (int i = 1; i <= 6; i++) {
+            bus.setCell(0, 0, i);
+            Due.is("count(11)", bus.count(11), Math.min(i, 4));
+        }
+        for (int left = 3; left >= 0; left--) {
+            Due.is("undo()", bus.undo(), left);
+            Due.is("cell(0, 0)", bus.cell(0, 0), left + 2);
+            Due.is("count(11)", bus.count(11), left);
+        }
+        Due.is("undo()", bus.undo(), TagBus.NONE);
+        Due.is("cell(0, 0)", bus.cell(0, 0), 2);
+        bus.setCell(0, 0, 50);
+        Due.is("count(11)", bus.count(11), 1);
+        bus.setCell(0, 0, 51);
+        Due.is("undo()", bus.undo(), 1);
+        bus.setCell(0, 0, 52);
+        Due.is("undo()", bus.undo(), 1);
+        Due.is("undo()", bus.undo(), 0);
+        Due.is("cell(0, 0)", bus.cell(0, 0), 2);
+    }
+
+    /** A bus in the midst of its work: with refusals, waits, turns, tags, and questions of all kinds. */
+    private static TagBus working() {
+        TagBus bus = new TagBus();
+        bus.set(1, 2);
+        bus.set(2, 5);
+        bus.setShare(1, 3);
+        bus.setTarget(1, 0, 1);
+        bus.setTarget(1, 1, 9);
+        bus.setTarget(2, 2, 1);
+        Due.type(bus, "0>1w2=9;0>2r3;0>2r0;1>1r0;1>2w0=5");
+        bus.ask();
+        Due.type(bus, "1>3r1;2>1r2;2>0r0;3>0w0=4;3>2r0");
+        bus.ask();
+        bus.read(2, 3, 0);
+        bus.withdraw(2);
+        bus.pass(9);
+        return bus;
+    }
+
+    private static void undoIsExact() {
+        for (int ahead = 1; ahead <= 40; ahead++) {
+            TagBus bus = working();
+            bus.pass(ahead);
+            String before = Due.state(bus);
+            bus.pass(11);
+            bus.read(0, 0, 5);
+            bus.pass(7);
+            String behind = Due.state(bus);
+            bus.undo();
+            bus.undo();
+            bus.undo();
+            Due.same("undo() behind " + ahead, Due.state(bus), before);
+            Due.is("undo()", bus.undo(), 0);
+            bus.pass(ahead);
+            Due.same("pass(" + ahead + ") once more", Due.state(bus), before);
+            bus.pass(11);
+            bus.read(0, 0, 5);
+            bus.pass(7);
+            Due.same("all of it once more", Due.state(bus), behind);
+        }
+    }
+
+    private static void whatIsNotInAState() {
+        TagBus bus = new TagBus();
+        Due.type(bus, "0>0r");
+        bus.setCell(0, 0, 1);
+        bus.type('7');
+        Due.is("keep()", bus.keep(), 0);
+        bus.setCell(0, 0, 2);
+        bus.type(';');
+        bus.undo();
+        bus.undo();
+        Due.is("cell(0, 0)", bus.cell(0, 0), 0);
+        Due.is("the text is not undone", bus.count(12), 6);
+        Due.is("the snapshot is not undone", bus.restore(), 0);
+        Due.is("cell(0, 0)", bus.cell(0, 0), 1);
+        Due.is("the text is not restored", bus.count(12), 6);
+        Due.is("the history is not restored", bus.count(11), 1);
+        Due.is("undo()", bus.undo(), 0);
+        Due.is("cell(0, 0)", bus.cell(0, 0), 0);
+    }
+
+    private static void whatRecords() {
+        TagBus bus = new TagBus();
+        bus.type('0');
+        bus.clearText();
+        bus.keep();
+        bus.undo();
+        bus.question(0, 0);
+        bus.next(0);
+        bus.answeredIn(0);
+        Due.is("count(11)", bus.count(11), 0);
+        bus.restore();
+        Due.is("count(11) behind restore()", bus.count(11), 1);
+        bus.pass(1);
+        Due.is("count(11) behind pass(1)", bus.count(11), 2);
+        bus.read(0, 0, 0);
+        Due.is("count(11) behind read(..)", bus.count(11), 3);
+        bus.next(0);
+        bus.answeredIn(0);
+        bus.keep();
+        Due.is("count(11)", bus.count(11), 3);
+        bus.withdraw(0);
+        Due.is("count(11) behind withdraw(0)", bus.count(11), 4);
+        bus.undo();
+        Due.is("withdrawn question is back", bus.question(0, 4), 0);
+    }
+
+    private static void snapshots() {
+        TagBus bus = new TagBus();
+        Due.is("restore()", bus.restore(), TagBus.NONE);
+        Due.is("count(11)", bus.count(11), 0);
+        bus.pass(3);
+        bus.read(0, 0, 0);
+        Due.is("keep()", bus.keep(), 3);
+        String kept = Due.state(bus);
+        bus.pass(20);
+        String later = Due.state(bus);
+        Due.is("restore()", bus.restore(), 3);
+        Due.same("restore()", Due.state(bus), kept);
+        bus.pass(2);
+        Due.is("restore() once more", bus.restore(), 3);
+        Due.same("restore()", Due.state(bus), kept);
+        Due.is("undo()", bus.undo(), 3);
+        Due.is("undo()", bus.undo(), 2);
+        Due.is("undo()", bus.undo(), 1);
+        Due.same("undo() of restore()", Due.state(bus), later);
+        Due.is("keep() in place of the other", bus.keep(), 23);
+        bus.undo();
+        Due.same("undo()", Due.state(bus), kept);
+        Due.is("restore()", bus.restore(), 23);
+        Due.same("restore()", Due.state(bus), later);
+        TagBus busy = working();
+        busy.keep();
+        String before = Due.state(busy);
+        busy.pass(30);
+        String behind = Due.state(busy);
+        busy.restore();
+        Due.same("restore() of a working bus", Due.state(busy), before);
+        busy.pass(30);
+        Due.same("pass(30) once more", Due.state(busy), behind);
+    }
+
+    private static void errorsChangeNothing() {
+        TagBus bus = working();
+        for (int i = 0; i < 6; i++) {
+            bus.read(3, 0, 0);
+        }
+        Due.type(bus, "3>0r0");
+        String before = Due.everything(bus);
+        int[][] calls = {
+            {bus.set(3, 1), TagBus.BAD_VALUE}, {bus.set(1, 2), TagBus.NONE}, {bus.setShare(1, 9), TagBus.BAD_VALUE},
+            {bus.setShare(4, 1), TagBus.UNKNOWN}, {bus.setShare(1, 3), TagBus.NONE},
+            {bus.setTarget(1, 0, 1), TagBus.NONE}, {bus.setTarget(1, 0, 9), TagBus.BAD_VALUE},
+            {bus.setCell(0, 1, 0), TagBus.NONE}, {bus.read(3, 0, 0), TagBus.FULL}, {bus.write(3, 0, 0, 1), TagBus.FULL},
+            {bus.ask(), TagBus.FULL}, {bus.withdraw(4), TagBus.UNKNOWN}, {bus.pass(0), TagBus.BAD_VALUE},
+            {bus.restore(), TagBus.NONE}, {bus.next(2), TagBus.BAD_VALUE}};
+        for (int i = 0; i < calls.length; i++) {
+            Due.is("call " + i, calls[i][0], calls[i][1]);
+        }
+        Due.same("errors", Due.everything(bus), before);
+    }
+}
