@@ -1,11 +1,14 @@
 /** Promises 13 to 15, and what records a state. */
 public final class HistoryTest {
+    private static final int N = TagBus.NONE;
+
     public static void main(String[] args) {
         fourStates();
         undoIsExact();
         whatIsNotInAState();
         whatRecords();
         snapshots();
+        numbersGivenAgain();
         errorsChangeNothing();
         Due.end();
     }
@@ -155,6 +158,50 @@ public final class HistoryTest {
         Due.same("restore() of a working bus", Due.state(busy), before);
         busy.pass(30);
         Due.same("pass(30) once more", Due.state(busy), behind);
+    }
+
+    /** A number that is given again behind undo() tells nothing of the question that had it before. */
+    private static void numbersGivenAgain() {
+        TagBus bus = new TagBus();
+        bus.setTarget(0, 0, 1);
+        bus.setTarget(0, 2, 1);
+        bus.read(0, 0, 3);
+        bus.pass(1);
+        bus.read(1, 0, 0);
+        bus.pass(3);
+        Due.is("question(1, 8)", bus.question(1, 8), 1);
+        bus.undo();
+        bus.undo();
+        Due.is("write(2, 3, 4, 5)", bus.write(2, 3, 4, 5), 1);
+        int[] fresh = {2, 3, 4, 5, 0, N, N, N, 0};
+        for (int what = 0; what < fresh.length; what++) {
+            Due.is("question(1, " + what + ")", bus.question(1, what), fresh[what]);
+        }
+        bus.keep();
+        bus.pass(20);
+        Due.is("question(1, 7)", bus.question(1, 7), 3);
+        bus.undo();
+        bus.undo();
+        bus.pass(2);
+        Due.is("read(0, 1, 2)", bus.read(0, 1, 2), 1);
+        bus.pass(20);
+        int[] other = {0, 1, 2, N, 3, N, 0, 5, 0};
+        for (int what = 0; what < other.length; what++) {
+            Due.is("question(1, " + what + ") in another's place", bus.question(1, what), other[what]);
+        }
+        Due.is("restore()", bus.restore(), 1);
+        for (int what = 0; what < fresh.length; what++) {
+            Due.is("question(1, " + what + ") of the snapshot", bus.question(1, what), fresh[what]);
+        }
+        bus.pass(20);
+        Due.is("question(1, 7) of the snapshot", bus.question(1, 7), 3);
+        bus.undo();
+        bus.setTarget(0, 0, 2);
+        bus.read(2, 0, 0);
+        bus.pass(20);
+        Due.is("count(10)", bus.count(10), 1);
+        bus.undo();
+        Due.is("count(10) behind undo()", bus.count(10), 0);
     }
 
     private static void errorsChangeNothing() {
