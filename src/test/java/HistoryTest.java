@@ -9,6 +9,7 @@ public final class HistoryTest {
         whatRecords();
         snapshots();
         numbersGivenAgain();
+        numbersGivenAgainBehindRestore();
         errorsChangeNothing();
         Due.end();
     }
@@ -202,6 +203,26 @@ public final class HistoryTest {
         Due.is("count(10)", bus.count(10), 1);
         bus.undo();
         Due.is("count(10) behind undo()", bus.count(10), 0);
+    }
+
+    private static void numbersGivenAgainBehindRestore() {
+        TagBus bus = new TagBus();
+        bus.setTarget(0, 0, 1);
+        bus.read(0, 0, 3);
+        bus.pass(1);
+        bus.keep();
+        bus.write(1, 0, 0, 9);
+        bus.pass(40);
+        Due.is("question(1, 4)", bus.question(1, 4), 3);
+        Due.is("question(1, 8)", bus.question(1, 8), 2);
+        bus.restore();
+        Due.is("question(1, 4)", bus.question(1, 4), TagBus.UNKNOWN);
+        Due.is("read(2, 3, 4)", bus.read(2, 3, 4), 1);
+        int[] fresh = {2, 3, 4, N, 0, N, N, N, 0};
+        for (int what = 0; what < fresh.length; what++) {
+            Due.is("question(1, " + what + ") behind restore()", bus.question(1, what), fresh[what]);
+        }
+        Due.is("answeredIn(1)", bus.answeredIn(1), 4);
     }
 
     private static void errorsChangeNothing() {
