@@ -1,4 +1,5 @@
 import java.util.Arrays;
+import java.util.function.Consumer;
 
 /** What the tests share: comparing answers, typing texts, telling everything that a bus tells. */
 final class Due {
@@ -88,6 +89,16 @@ final class Due {
             told.append(bus.answeredIn(number)).append(' ');
         }
         return told.append("| n").append(bus.next(0)).append(' ').append(bus.next(1)).toString();
+    }
+
+    /** All that is told of a new bus behind these steps: an object is used for 512 calls at most, and this takes some 300. */
+    @SafeVarargs
+    static String stateBehind(Consumer<TagBus>... steps) {
+        TagBus bus = new TagBus();
+        for (Consumer<TagBus> step : steps) {
+            step.accept(bus);
+        }
+        return state(bus);
     }
 
     /** All that is told, with the lengths of the history and of the text. */

@@ -1,3 +1,5 @@
+import java.util.function.Consumer;
+
 /** Promises 13 to 15, and what records a state. */
 public final class HistoryTest {
     private static final int N = TagBus.NONE;
@@ -38,9 +40,8 @@ public final class HistoryTest {
         Due.is("cell(0, 0)", bus.cell(0, 0), 2);
     }
 
-    /** A bus in the midst of its work: with refusals, waits, turns, tags, and questions of all kinds. */
-    private static TagBus working() {
-        TagBus bus = new TagBus();
+    /** Brings a bus into the midst of its work: with refusals, waits, turns, tags, and questions of all kinds. */
+    private static void work(TagBus bus) {
         bus.set(1, 2);
         bus.set(2, 5);
         bus.setShare(1, 3);
@@ -54,29 +55,36 @@ public final class HistoryTest {
         bus.read(2, 3, 0);
         bus.withdraw(2);
         bus.pass(9);
-        return bus;
+    }
+
+    private static void goOn(TagBus bus) {
+        bus.pass(11);
+        bus.read(0, 0, 5);
+        bus.pass(7);
     }
 
     private static void undoIsExact() {
-        for (int ahead = 1; ahead <= 40; ahead++) {
-            TagBus bus = working();
-            bus.pass(ahead);
-            String before = Due.state(bus);
-            bus.pass(11);
-            bus.read(0, 0, 5);
-            bus.pass(7);
-            String behind = Due.state(bus);
-            bus.undo();
-            bus.undo();
-            bus.undo();
-            Due.same("undo() behind " + ahead, Due.state(bus), before);
-            Due.is("undo()", bus.undo(), 0);
-            bus.pass(ahead);
-            Due.same("pass(" + ahead + ") once more", Due.state(bus), before);
-            bus.pass(11);
-            bus.read(0, 0, 5);
-            bus.pass(7);
-            Due.same("all of it once more", Due.state(bus), behind);
+        for (int i = 1; i <= 40; i++) {
+            int ahead = i;
+            Consumer<TagBus> begin = bus -> {
+                work(bus);
+                bus.pass(ahead);
+            };
+            Consumer<TagBus> back = bus -> {
+                for (int left = 3; left > 0; left--) {
+                    Due.is("undo()", bus.undo(), left);
+                }
+            };
+            Consumer<TagBus> backAndAgain = bus -> {
+                back.accept(bus);
+                Due.is("undo()", bus.undo(), 0);
+                Due.is("pass(" + ahead + ") once more", bus.pass(ahead) >= 0 ? 1 : 0, 1);
+            };
+            String before = Due.stateBehind(begin);
+            String behind = Due.stateBehind(begin, HistoryTest::goOn);
+            Due.same("undo() behind " + ahead, Due.stateBehind(begin, HistoryTest::goOn, back), before);
+            Due.same("pass(" + ahead + ") once more", Due.stateBehind(begin, HistoryTest::goOn, backAndAgain), before);
+            Due.same("all of it once more", Due.stateBehind(begin, HistoryTest::goOn, backAndAgain, HistoryTest::goOn), behind);
         }
     }
 
@@ -127,38 +135,52 @@ public final class HistoryTest {
     }
 
     private static void snapshots() {
-        TagBus bus = new TagBus();
-        Due.is("restore()", bus.restore(), TagBus.NONE);
-        Due.is("count(11)", bus.count(11), 0);
-        bus.pass(3);
-        bus.read(0, 0, 0);
-        Due.is("keep()", bus.keep(), 3);
-        String kept = Due.state(bus);
-        bus.pass(20);
-        String later = Due.state(bus);
-        Due.is("restore()", bus.restore(), 3);
-        Due.same("restore()", Due.state(bus), kept);
-        bus.pass(2);
-        Due.is("restore() once more", bus.restore(), 3);
-        Due.same("restore()", Due.state(bus), kept);
-        Due.is("undo()", bus.undo(), 3);
-        Due.is("undo()", bus.undo(), 2);
-        Due.is("undo()", bus.undo(), 1);
-        Due.same("undo() of restore()", Due.state(bus), later);
-        Due.is("keep() in place of the other", bus.keep(), 23);
-        bus.undo();
-        Due.same("undo()", Due.state(bus), kept);
-        Due.is("restore()", bus.restore(), 23);
-        Due.same("restore()", Due.state(bus), later);
-        TagBus busy = working();
-        busy.keep();
-        String before = Due.state(busy);
-        busy.pass(30);
-        String behind = Due.state(busy);
-        busy.restore();
-        Due.same("restore() of a working bus", Due.state(busy), before);
-        busy.pass(30);
-        Due.same("pass(30) once more", Due.state(busy), behind);
+        TagBus none = new TagBus();
+        Due.is("restore()", none.restore(), TagBus.NONE);
+        Due.is("count(11)", none.count(11), 0);
+        Consumer<TagBus> keep = bus -> {
+            bus.pass(3);
+            bus.read(0, 0, 0);
+            Due.is("keep()", bus.keep(), 3);
+        };
+        Consumer<TagBus> later = bus -> bus.pass(20);
+        Consumer<TagBus> restore = bus -> Due.is("restore()", bus.restore(), 3);
+        Consumer<TagBus> restoreAgain = bus -> {
+            bus.pass(2);
+            Due.is("restore() once more", bus.restore(), 3);
+        };
+        Consumer<TagBus> undo = bus -> {
+            Due.is("undo()", bus.undo(), 3);
+            Due.is("undo()", bus.undo(), 2);
+            Due.is("undo()", bus.undo(), 1);
+        };
+        Consumer<TagBus> keepAgain = bus -> {
+            Due.is("keep() in place of the other", bus.keep(), 23);
+            Due.is("undo()", bus.undo(), 0);
+        };
+        Consumer<TagBus> restoreTheOther = bus -> Due.is("restore()", bus.restore(), 23);
+        String kept = Due.stateBehind(keep);
+        String behind = Due.stateBehind(keep, later);
+        Due.same("restore()", Due.stateBehind(keep, later, restore), kept);
+        Due.same("restore() once more", Due.stateBehind(keep, later, restore, restoreAgain), kept);
+        Due.same("undo() of restore()", Due.stateBehind(keep, later, restore, restoreAgain, undo), behind);
+        Due.same("undo()", Due.stateBehind(keep, later, restore, restoreAgain, undo, keepAgain), kept);
+        Due.same("restore() of the other", Due.stateBehind(keep, later, restore, restoreAgain, undo, keepAgain,
+                restoreTheOther), behind);
+        snapshotOfAWorkingBus();
+    }
+
+    private static void snapshotOfAWorkingBus() {
+        Consumer<TagBus> keep = bus -> {
+            work(bus);
+            bus.keep();
+        };
+        Consumer<TagBus> later = bus -> bus.pass(30);
+        String before = Due.stateBehind(HistoryTest::work);
+        String behind = Due.stateBehind(HistoryTest::work, later);
+        Due.same("keep()", Due.stateBehind(keep), before);
+        Due.same("restore() of a working bus", Due.stateBehind(keep, later, TagBus::restore), before);
+        Due.same("pass(30) once more", Due.stateBehind(keep, later, TagBus::restore, later), behind);
     }
 
     /** A number that is given again behind undo() tells nothing of the question that had it before. */
@@ -226,22 +248,22 @@ public final class HistoryTest {
     }
 
     private static void errorsChangeNothing() {
-        TagBus bus = working();
-        for (int i = 0; i < 6; i++) {
-            bus.read(3, 0, 0);
-        }
-        Due.type(bus, "3>0r0");
-        String before = Due.everything(bus);
-        int[][] calls = {
-            {bus.set(3, 1), TagBus.BAD_VALUE}, {bus.set(1, 2), TagBus.NONE}, {bus.setShare(1, 9), TagBus.BAD_VALUE},
-            {bus.setShare(4, 1), TagBus.UNKNOWN}, {bus.setShare(1, 3), TagBus.NONE},
-            {bus.setTarget(1, 0, 1), TagBus.NONE}, {bus.setTarget(1, 0, 9), TagBus.BAD_VALUE},
-            {bus.setCell(0, 1, 0), TagBus.NONE}, {bus.read(3, 0, 0), TagBus.FULL}, {bus.write(3, 0, 0, 1), TagBus.FULL},
-            {bus.ask(), TagBus.FULL}, {bus.withdraw(4), TagBus.UNKNOWN}, {bus.pass(0), TagBus.BAD_VALUE},
-            {bus.restore(), TagBus.NONE}, {bus.next(2), TagBus.BAD_VALUE}};
-        for (int i = 0; i < calls.length; i++) {
-            Due.is("call " + i, calls[i][0], calls[i][1]);
-        }
-        Due.same("errors", Due.everything(bus), before);
+        Consumer<TagBus> begin = bus -> {
+            work(bus);
+            for (int i = 0; i < 6; i++) {
+                bus.read(3, 0, 0);
+            }
+            Due.type(bus, "3>0r0");
+        };
+        Consumer<TagBus> errors = bus -> {
+            int[] answers = {bus.set(3, 1), bus.set(1, 2), bus.setShare(1, 9), bus.setShare(4, 1), bus.setShare(1, 3),
+                bus.setTarget(1, 0, 1), bus.setTarget(1, 0, 9), bus.setCell(0, 1, 0), bus.read(3, 0, 0),
+                bus.write(3, 0, 0, 1), bus.ask(), bus.withdraw(4), bus.pass(0), bus.restore(), bus.next(2)};
+            Due.row("errors", answers, TagBus.BAD_VALUE, N, TagBus.BAD_VALUE, TagBus.UNKNOWN, N, N, TagBus.BAD_VALUE, N,
+                    TagBus.FULL, TagBus.FULL, TagBus.FULL, TagBus.UNKNOWN, TagBus.BAD_VALUE, N, TagBus.BAD_VALUE);
+            Due.is("count(11) behind errors", bus.count(11), 4);
+            Due.is("count(12) behind errors", bus.count(12), 5);
+        };
+        Due.same("errors", Due.stateBehind(begin, errors), Due.stateBehind(begin));
     }
 }

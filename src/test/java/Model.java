@@ -195,9 +195,7 @@ final class Model {
             }
             Q answer = chosenAnswer();
             Q question = chosenQuestion();
-            String made = trips.toString().replace("-", "");
-            boolean answerIsFirst = settings[1] == 0
-                    || settings[1] == 2 && (made.endsWith("Q") || made.endsWith("R"));
+            boolean answerIsFirst = settings[1] == 0 || settings[1] == 2 && "QR".indexOf(latest()) >= 0;
             String trip = "-";
             if (answer != null && (answerIsFirst || question == null)) {
                 turnOfTarget = (answer.target + 1) % 4;
@@ -217,6 +215,15 @@ final class Model {
             trips.append(trip.charAt(0));
             tick++;
             return trip;
+        }
+
+        /** The kind of the latest trip, "-" without one. */
+        private char latest() {
+            int place = trips.length() - 1;
+            while (place > 0 && trips.charAt(place) == '-') {
+                place--;
+            }
+            return place < 0 ? '-' : trips.charAt(place);
         }
 
         private String send(Q question) {

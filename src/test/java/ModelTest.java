@@ -2,6 +2,8 @@
 public final class ModelTest {
     private static final int RUNS = 600;
     private static final int CALLS = 512;
+    // Clearing, typing three questions, and asking.
+    private static final int LONGEST_STEP = 31;
 
     private long seed;
 
@@ -32,8 +34,8 @@ public final class ModelTest {
         TagBus bus = new TagBus();
         Model model = new Model();
         int eager = 1 + run % 6;
-        int calls = 0;
-        while (calls < CALLS) {
+        int calls = begin(run, bus, model);
+        while (calls <= CALLS - LONGEST_STEP) {
             int kind = below(30);
             if (kind < 2 * eager) {
                 calls += putOrAsk(run, bus, model);
@@ -49,6 +51,61 @@ public final class ModelTest {
                 calls++;
             }
         }
+    }
+
+    /** Brings both to a bound, in some of the runs; tells how many calls that took. */
+    private int begin(int run, TagBus bus, Model model) {
+        switch (run % 10) {
+            case 1: return manyTicks(run, bus, model);
+            case 3: return manyQuestions(run, bus, model);
+            case 5:
+            case 6: return narrow(run, bus, model);
+            case 7:
+            case 8: return wide(run, bus, model);
+            default: return 0;
+        }
+    }
+
+    private int manyTicks(int run, TagBus bus, Model model) {
+        for (int i = 0; i < 100; i++) {
+            same(run, "pass(99)", bus.pass(99), model.pass(99));
+        }
+        return 100;
+    }
+
+    private int manyQuestions(int run, TagBus bus, Model model) {
+        for (int i = 0; i < 190; i++) {
+            int master = i % 4;
+            same(run, "read(" + master + ", 0, 0)", bus.read(master, 0, 0), model.put(master, 0, 0, null));
+            if (i % 12 == 11) {
+                same(run, "pass(20)", bus.pass(20), model.pass(20));
+            }
+        }
+        return 190 + 190 / 12;
+    }
+
+    private int narrow(int run, TagBus bus, Model model) {
+        int tags = 1 + below(2);
+        same(run, "set(0, " + tags + ")", bus.set(0, tags), model.set(0, tags));
+        same(run, "set(2, 1)", bus.set(2, 1), model.set(2, 1));
+        for (int i = 0; i < 4; i++) {
+            same(run, "setTarget(" + i + ", 0, 1)", bus.setTarget(i, 0, 1), model.setTarget(i, 0, 1));
+            same(run, "setTarget(" + i + ", 1, 9)", bus.setTarget(i, 1, 9), model.setTarget(i, 1, 9));
+        }
+        return 10;
+    }
+
+    private int wide(int run, TagBus bus, Model model) {
+        int manner = 1 + below(2);
+        same(run, "set(0, 8)", bus.set(0, 8), model.set(0, 8));
+        same(run, "set(1, " + manner + ")", bus.set(1, manner), model.set(1, manner));
+        for (int i = 0; i < 4; i++) {
+            int room = 1 + below(4);
+            same(run, "setShare(" + i + ", 8)", bus.setShare(i, 8), model.setShare(i, 8));
+            same(run, "setTarget(" + i + ", 0, " + room + ")", bus.setTarget(i, 0, room), model.setTarget(i, 0, room));
+            same(run, "setTarget(" + i + ", 2, 1)", bus.setTarget(i, 2, 1), model.setTarget(i, 2, 1));
+        }
+        return 14;
     }
 
     private void same(int run, String call, int got, int want) {

@@ -67,18 +67,27 @@ public final class QuestionsTest {
         Due.is("cell(3, 2)", bus.cell(3, 2), 0);
     }
 
-    private static void fullRows() {
-        TagBus bus = new TagBus();
+    private static void fullRow(TagBus bus) {
         for (int i = 0; i < 6; i++) {
             Due.is("read(2, 0, 0)", bus.read(2, 0, 0), i);
         }
-        String before = Due.everything(bus);
+    }
+
+    private static void refusals(TagBus bus) {
         Due.is("read(2, 0, 0)", bus.read(2, 0, 0), TagBus.FULL);
         Due.is("write(2, 0, 0, 0)", bus.write(2, 0, 0, 0), TagBus.FULL);
         Due.is("read(2, 0, 16)", bus.read(2, 0, 16), TagBus.BAD_VALUE);
         Due.is("write(2, 0, 0, 100)", bus.write(2, 0, 0, 100), TagBus.BAD_VALUE);
         Due.is("read(2, 4, 0)", bus.read(2, 4, 0), TagBus.UNKNOWN);
-        Due.same("the full row", Due.everything(bus), before);
+    }
+
+    private static void fullRows() {
+        Due.same("the full row", Due.stateBehind(QuestionsTest::fullRow, QuestionsTest::refusals),
+                Due.stateBehind(QuestionsTest::fullRow));
+        TagBus bus = new TagBus();
+        fullRow(bus);
+        refusals(bus);
+        Due.is("count(11)", bus.count(11), 4);
         Due.is("read(1, 0, 0)", bus.read(1, 0, 0), 6);
         bus.pass(1);
         Due.is("master(2, 0)", bus.master(2, 0), 6);

@@ -1,3 +1,5 @@
+import java.util.function.Consumer;
+
 /** Promises 8, 11 and 12. */
 public final class TextsTest {
     public static void main(String[] args) {
@@ -5,6 +7,10 @@ public final class TextsTest {
         goodTexts();
         faults();
         everySignAtEveryPlace();
+        everyAddress();
+        everyValue();
+        everyMasterAndTarget();
+        oneOrMoreQuestions();
         asking();
         fullRows();
         Due.end();
@@ -90,6 +96,10 @@ public final class TextsTest {
         fault("0>0w1=990", 8);
         fault("0>0w1=9:", 7);
         fault("0>0w1=9/", 7);
+        fault("0>0w1=/", 6);
+        fault("0>0w1=:", 6);
+        fault("/>0r0", 0);
+        fault("0>/r0", 2);
         fault("0>0r0;;", 6);
         fault("0>0r0;0>0r0,", 11);
         fault("0>0r0;0>0r0;9>0r0", 12);
@@ -125,6 +135,77 @@ public final class TextsTest {
         }
     }
 
+    /** The digits of a number that are allowed, so far as those ahead of them are. */
+    private static int allowedDigits(String digits, int most) {
+        if (digits.length() < 2 || digits.charAt(0) == '0' || Integer.parseInt(digits.substring(0, 2)) > most) {
+            return 1;
+        }
+        return 2;
+    }
+
+    private static void number(String ahead, String digits, String behind, int most) {
+        TagBus bus = new TagBus();
+        String text = ahead + digits + behind;
+        Due.type(bus, text);
+        int allowed = allowedDigits(digits, most);
+        boolean good = allowed == digits.length();
+        Due.is("ask() of " + text, bus.ask(), good ? 1 : -100 - ahead.length() - allowed);
+        int told = good ? Integer.parseInt(digits) : TagBus.UNKNOWN;
+        Due.is("the number of " + text, bus.question(0, most == 15 ? 2 : 3), told);
+    }
+
+    // "a digit by which an address would be more than 15 is not allowed", "without a zero in front"
+    private static void everyAddress() {
+        for (int address = 0; address <= 199; address++) {
+            number("3>2r", "" + address, "", 15);
+            number("3>2w", "" + address, "=7", 15);
+            number("3>2r", "0" + address, "", 15);
+            number("3>2w", "0" + address, "=7", 15);
+        }
+    }
+
+    // "Addresses (0 to 15) and values (0 to 99) are told by one or two digits"
+    private static void everyValue() {
+        for (int value = 0; value <= 999; value++) {
+            number("0>1w15=", "" + value, "", 99);
+            number("0>1w0=", "0" + value, "", 99);
+        }
+    }
+
+    // "A question is a master (0 to 3), ">", a target (0 to 3)"
+    private static void everyMasterAndTarget() {
+        for (int master = 0; master <= 9; master++) {
+            for (int target = 0; target <= 9; target++) {
+                TagBus bus = new TagBus();
+                Due.type(bus, master + ">" + target + "r0");
+                Due.is("ask() of " + master + ">" + target, bus.ask(), master > 3 ? -100 : target > 3 ? -102 : 1);
+                fault(master + "0>" + target + "r0", master > 3 ? 0 : 1);
+                fault("0>" + target + "0r0", target > 3 ? 2 : 3);
+            }
+        }
+    }
+
+    // "A text of questions is one or more questions with ";" between two."
+    private static void oneOrMoreQuestions() {
+        StringBuilder text = new StringBuilder();
+        for (int count = 1; count <= 10; count++) {
+            text.append(count > 1 ? ";" : "").append(count % 4).append(">0r1");
+            TagBus bus = new TagBus();
+            Due.type(bus, text.toString());
+            Due.is("ask() of " + text, bus.ask(), count);
+            Due.is("count(4) of " + text, bus.count(4), count);
+            fault(text + ";", text.length() + 1);
+            fault(";" + text, 0);
+            if (text.length() < 59) {
+                fault(text + ";;", text.length() + 1);
+                fault(text + ">0r0", text.length());
+            }
+        }
+        // Behind the address 1 a digit may come, behind two digits none.
+        fault("0>0r15;0>0r15" + "0", 13);
+        fault("0>0r1" + "0>0r0", 6);
+    }
+
     private static void asking() {
         TagBus bus = new TagBus();
         Due.type(bus, "1>2w3=45;0>3r1;1>0r9;1>1w0=7");
@@ -154,15 +235,22 @@ public final class TextsTest {
         Due.is("question(1, 7)", bus.question(1, 7), 7);
     }
 
-    private static void fullRows() {
-        TagBus bus = new TagBus();
+    /** The row of master 3 is full, and the text would put one more question into it. */
+    private static void fillAndType(TagBus bus) {
         Due.type(bus, "3>0r0;3>0r0;3>0r0;2>0r0;3>0r0;3>0r0;3>0r0");
         Due.is("ask() of six and one", bus.ask(), 7);
         Due.is("master(3, 0)", bus.master(3, 0), 6);
         Due.type(bus, "0>0r0;3>0r0");
-        String before = Due.everything(bus);
-        Due.is("ask()", bus.ask(), TagBus.FULL);
-        Due.same("ask()", Due.everything(bus), before);
+    }
+
+    private static void fullRows() {
+        Consumer<TagBus> refused = bus -> Due.is("ask()", bus.ask(), TagBus.FULL);
+        Due.same("ask()", Due.stateBehind(TextsTest::fillAndType, refused), Due.stateBehind(TextsTest::fillAndType));
+        TagBus bus = new TagBus();
+        fillAndType(bus);
+        refused.accept(bus);
+        Due.is("count(11)", bus.count(11), 1);
+        Due.is("count(12)", bus.count(12), 11);
         Due.type(bus, "0>0r0;2>0r0");
         Due.is("ask()", bus.ask(), 2);
         bus = new TagBus();

@@ -1,3 +1,5 @@
+import java.util.function.Consumer;
+
 /** Promises 16 to 24: what is told, for wrong inputs and for what no other test looks at. */
 public final class ToldTest {
     private static final int N = TagBus.NONE;
@@ -217,14 +219,20 @@ public final class ToldTest {
     }
 
     private static void tellingChangesNothing() {
-        TagBus bus = new TagBus();
-        Due.type(bus, "0>0w1=5;0>0r1;1>0r1;2>3r0");
-        bus.ask();
-        for (int i = 0; i < 20; i++) {
-            bus.pass(1);
-            String first = Due.everything(bus);
-            Due.same("telling", Due.everything(bus), first);
+        for (int i = 1; i <= 20; i++) {
+            int ticks = i;
+            Consumer<TagBus> begin = bus -> {
+                Due.type(bus, "0>0w1=5;0>0r1;1>0r1;2>3r0");
+                bus.ask();
+                bus.pass(ticks);
+            };
+            String first = Due.stateBehind(begin);
+            // Each is told behind all of the telling of the other.
+            Due.same("telling", Due.stateBehind(begin, ToldTest::tellsAgain), first);
         }
-        Due.is("question(1, 6)", bus.question(1, 6), 5);
+    }
+
+    private static void tellsAgain(TagBus bus) {
+        Due.is("a state that is told is empty", Due.everything(bus).isEmpty() ? 1 : 0, 0);
     }
 }
